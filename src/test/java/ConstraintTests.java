@@ -141,6 +141,12 @@ public final class ConstraintTests {
         x.addConstraint(kind, 0, 1, gap);
         CHECK.same("22 isSafe " + kind, safe, () -> x.isSafe(0));
         CHECK.same("23 isBroken " + kind, broken, () -> x.isBroken(0));
+        LintelBrothers narrowed = withDoors(2);
+        narrowed.addConstraint(kind, 0, 1, gap);
+        narrowed.narrow(0, bounds[0], bounds[1]);
+        narrowed.narrow(1, bounds[2], bounds[3]);
+        CHECK.same("22 isSafe is about bounds " + kind, safe, () -> narrowed.isSafe(0));
+        CHECK.same("23 isBroken is about bounds " + kind, broken, () -> narrowed.isBroken(0));
     }
 
     private static void lower() {

@@ -8,6 +8,7 @@ public final class HistoryTests {
         noRejection();
         latestRejection();
         undoEachChange();
+        undoRemovals();
         undoLimit();
         undoAfterRejections();
         undoLeaves();
@@ -84,6 +85,30 @@ public final class HistoryTests {
         });
         CHECK.same("53 seven are left", 7, x::undo);
         undone("a change without a difference", x, () -> x.narrow(1, 0, 40));
+    }
+
+    /** Removes constraints from front to back, so that rows move, and brings them back. */
+    private static void undoRemovals() {
+        LintelBrothers x = new LintelBrothers();
+        for (int door = 0; door < 6; door++) {
+            x.addDoor(door, 40 - door);
+        }
+        x.addConstraint('<', 0, 1, 1);
+        x.addConstraint('=', 2, 3, 2);
+        x.addConstraint('#', 4, 5, 3);
+        x.saveSnapshot();
+        String all = Look.at(x);
+        undone("removeConstraint, the first", x, () -> x.removeConstraint(0));
+        undone("removeConstraint, the next", x, () -> x.removeConstraint(1));
+        undone("removeConstraint, the last", x, () -> x.removeConstraint(2));
+        x.addConstraint('=', 5, 0, 7);
+        for (int change = 0; change < 4; change++) {
+            x.undo();
+        }
+        CHECK.same("53 all removals undone", all, () -> Look.at(x));
+        x.removeConstraint(0);
+        x.restoreSnapshot();
+        CHECK.same("55 a removal", all, () -> Look.at(x));
     }
 
     private static void undoLimit() {

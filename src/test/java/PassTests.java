@@ -11,6 +11,8 @@ public final class PassTests {
         apartConflicts();
         order();
         settle();
+        settleWithApart();
+        fullOfConstraints();
         settleConflict();
         longestSettle();
         lowestHeights();
@@ -87,6 +89,10 @@ public final class PassTests {
         LintelBrothers edges = doors(10, 10, 7, 13);
         edges.addConstraint('#', 0, 1, 3);
         CHECK.same("24 bounds just far enough", 0, edges::pass);
+        LintelBrothers above = doors(10, 10, 13, 20, 0, 7);
+        above.addConstraint('#', 0, 1, 3);
+        above.addConstraint('#', 2, 0, 3);
+        CHECK.same("24 doors just far enough", 0, above::pass);
         LintelBrothers open = doors(10, 11, 8, 30);
         open.addConstraint('#', 0, 1, 3);
         CHECK.same("24 no door is fixed", 0, open::pass);
@@ -111,6 +117,11 @@ public final class PassTests {
         CHECK.rejected("24 the same height", LintelBrothers.CONFLICT, 0, y, y::pass);
         CHECK.same("26 not settled", false, y::isSettled);
         CHECK.refused("27 no answer", NoSuchElementException.class, y, y::wouldChange);
+        LintelBrothers exchanged = doors(8, 12, 10, 10);
+        exchanged.addConstraint('#', 0, 1, 3);
+        CHECK.rejected("24 no height is left, doors exchanged", LintelBrothers.CONFLICT, 0, exchanged,
+                exchanged::pass);
+        CHECK.rejected("25 no height is left", LintelBrothers.CONFLICT, 0, exchanged, exchanged::settle);
         LintelBrothers z = doors(20, 20, 19, 40);
         z.addConstraint('#', 0, 1, 20);
         CHECK.same("24 the top", 1, z::pass);
@@ -151,6 +162,32 @@ public final class PassTests {
         CHECK.same("25 settled", 1, x::settle);
         CHECK.same("30 it counts", 4, x::passCount);
         CHECK.same("26 isSettled", true, x::isSettled);
+    }
+
+    private static void settleWithApart() {
+        LintelBrothers x = doors(0, 40, 4, 8, 5, 40);
+        x.addConstraint('#', 1, 0, 20);
+        x.addConstraint('#', 2, 1, 3);
+        x.addConstraint('<', 2, 1, 3);
+        CHECK.same("25 settle with apart", 3, x::settle);
+        bounds("25 apart from a fixed door", x, 0, 28, 40);
+        bounds("25 the fixed door", x, 1, 8, 8);
+        CHECK.same("31 changeCount", 3, x::changeCount);
+    }
+
+    private static void fullOfConstraints() {
+        LintelBrothers x = doors(0, 40, 0, 40, 0, 40, 0, 40, 0, 40, 0, 40);
+        for (int gap = 1; gap <= 10; gap++) {
+            x.addConstraint('<', 4, 5, gap);
+        }
+        CHECK.same("24 ten constraints", 20, x::pass);
+        bounds("24 the last of them", x, 5, 10, 40);
+        CHECK.same("5 six doors", 2, x::reset);
+        CHECK.same("25 ten constraints", 2, x::settle);
+        CHECK.same("28 ten constraints", 10, () -> x.lowestHeight(5));
+        CHECK.same("29 ten constraints", 10, () -> x.lowestHeightByPaths(5));
+        CHECK.same("34 ten constraints", 10, x::peaceSum);
+        CHECK.same("43 ten constraints", true, x::isConsistent);
     }
 
     private static void settleConflict() {
@@ -221,6 +258,12 @@ public final class PassTests {
         CHECK.same("29 a path along five constraints", 40, () -> far.lowestHeightByPaths(5));
         CHECK.same("28 the same", 40, () -> far.lowestHeight(5));
         CHECK.same("25 passes of it", 6, far::settle);
+        LintelBrothers back = doors(0, 40, 0, 40, 0, 40, 9, 40);
+        back.addConstraint('=', 0, 1, 2);
+        back.addConstraint('=', 1, 2, 2);
+        back.addConstraint('=', 2, 3, 2);
+        CHECK.same("29 a path against exact constraints", 3, () -> back.lowestHeightByPaths(0));
+        CHECK.same("28 the same", 3, () -> back.lowestHeight(0));
     }
 
     private static void counts() {

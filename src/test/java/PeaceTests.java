@@ -10,6 +10,7 @@ public final class PeaceTests {
         lowestDoorFirst();
         noPeace();
         manyApart();
+        sixDoors();
         arePossible();
         againstAllChoices();
         CHECK.end();
@@ -112,6 +113,22 @@ public final class PeaceTests {
         CHECK.refused("33 no door comes first", IndexOutOfBoundsException.class, x, () -> x.peaceHeight(5));
         CHECK.refused("34 no peace", NoSuchElementException.class, x, x::peaceSum);
         CHECK.same("35 no peace", false, () -> x.arePossible(0, 1, 1, 11));
+    }
+
+    private static void sixDoors() {
+        LintelBrothers x = equalDoors(6, 1, 3);
+        for (int door = 0; door < 5; door++) {
+            x.addConstraint('#', door, door + 1, 2);
+        }
+        peace("six doors", x, 1, 3, 1, 3, 1, 3);
+        x.addConstraint('#', 5, 0, 1);
+        x.setFrame(5, 1, 2);
+        peace("six doors from the last one", x, 3, 1, 3, 1, 3, 1);
+        x.setFrame(0, 1, 2);
+        CHECK.same("32 six doors", false, x::hasPeace);
+        x.setFrame(0, 0, 3);
+        x.setFrame(5, 0, 3);
+        peace("six doors again", x, 0, 3, 1, 3, 1, 3);
     }
 
     private static void arePossible() {
