@@ -19,8 +19,12 @@ final class Check {
         try {
             return call.make();
         } catch (RuntimeException thrown) {
-            return "throws." + thrown.getClass().getSimpleName();
+            return thrownName(thrown.getClass());
         }
+    }
+
+    static String thrownName(Class<? extends RuntimeException> exception) {
+        return "throws." + exception.getSimpleName();
     }
 
     void same(String what, Object due, Call call) {
@@ -30,24 +34,6 @@ final class Check {
             wrong++;
             System.out.println(what + " answered " + got + ", due is " + due);
         }
-    }
-
-    /** The call throws, and all that can be seen of the object stays as it was. */
-    void refused(String what, Class<? extends RuntimeException> due, LintelBrothers object, Call call) {
-        String before = Look.at(object);
-        same(what, "throws." + due.getSimpleName(), call);
-        String after = Look.at(object);
-        same(what + ": what is seen afterwards", before, () -> after);
-    }
-
-    /** The call is rejected: nothing but the latest rejection becomes different. */
-    void rejected(String what, int reason, int detail, LintelBrothers object, Call call) {
-        String before = Look.atData(object);
-        same(what, "throws.UnsupportedOperationException", call);
-        String after = Look.atData(object);
-        same(what + ": what is seen afterwards", before, () -> after);
-        same(what + ": rejectionReason", reason, object::rejectionReason);
-        same(what + ": rejectionDetail", detail, object::rejectionDetail);
     }
 
     void end() {

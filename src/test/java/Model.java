@@ -593,6 +593,11 @@ public final class Model {
         earlier.addAll(kept);
     }
 
+    /** The offset of the syntax error, or -1 if there is none. */
+    static int offsetOf(String read) {
+        return COMMANDS.matcher(read).matches() ? -1 : errorOffset(read);
+    }
+
     /** The first index at which no input begins like this one any more. */
     private static int errorOffset(String read) {
         for (int length = 1; length <= read.length(); length++) {

@@ -63,7 +63,11 @@ public final class ModelTests {
         }
     }
 
+    /** An object is used for so many calls and no more; those that are asked for beyond that are not made. */
     private void call(String name, Object... arguments) {
+        if (made.size() == CALLS) {
+            return;
+        }
         made.add(name + List.of(arguments));
         Object due = answer(model, name, arguments);
         Object got = answer(object, name, arguments);
