@@ -28,14 +28,6 @@ final class CommandChapter extends Chapter {
         syntaxErrorOffset();
     }
 
-    private static Scene typed(Scene scene, String input) {
-        return scene.then(x -> {
-            Check.answer(x::execute);
-            Scenes.type(x, input);
-            return 0;
-        });
-    }
-
     // ---- promise 47
 
     private void appendInput() {
@@ -84,7 +76,7 @@ final class CommandChapter extends Chapter {
             refused(FAILURE, Scenes.FULL, x -> x.appendInput('p'));
             refused(FAILURE, Scenes.FULL, x -> x.appendInput(' '));
             refused(FAILURE, Scenes.FULL, x -> x.appendInput('~'));
-            Scene almost = typed(PAIR, SIXTY.substring(0, 59));
+            Scene almost = Scenes.typed(PAIR, SIXTY.substring(0, 59));
             same("the last one", 60, () -> almost.make().appendInput('0'));
             refused(FAILURE, almost.then(x -> x.appendInput('0')), x -> x.appendInput('0'));
             LintelBrothers full = Scenes.FULL.make();
@@ -104,7 +96,7 @@ final class CommandChapter extends Chapter {
                 "narrow 0 9-9;door 1-2;1=2+0;settle;drop 7", "drop 0;1#0+1;frame 1 5-6;narrow 1 7-8",
                 "door 1-2;door 1-2;door 1-2;door 1-2;door 1-2"};
             for (String input : none) {
-                Scene scene = typed(PAIR, input);
+                Scene scene = Scenes.typed(PAIR, input);
                 same(input, "throws", () -> Check.answer(() -> scene.make().execute()).toString().substring(0, 6));
                 Scene executed = scene.then(LintelBrothers::execute);
                 same(input, Look.data(PAIR.make()), () -> Look.data(executed.make()));
@@ -115,27 +107,27 @@ final class CommandChapter extends Chapter {
         holds("The input is empty after the call, also if an exception is thrown.", () -> {
             for (String input : new String[] {"", "pass", "settle;reset", SIXTY, "x", SIXTY.replace("-", " "), "drop 9",
                 "narrow 0 0-1", "1<0+1;1<0+1"}) {
-                inputIsEmpty(typed(PAIR, input).then(LintelBrothers::execute));
+                inputIsEmpty(Scenes.typed(PAIR, input).then(LintelBrothers::execute));
             }
             inputIsEmpty(Scenes.FULL.then(LintelBrothers::execute));
         });
         holds("Returns the number of commands.", () -> {
-            same(1, () -> typed(PAIR, "pass").make().execute());
-            same(2, () -> typed(PAIR, "drop 0;0=1+20").make().execute());
-            same(11, () -> typed(PAIR, SIXTY).make().execute());
+            same(1, () -> Scenes.typed(PAIR, "pass").make().execute());
+            same(2, () -> Scenes.typed(PAIR, "drop 0;0=1+20").make().execute());
+            same(11, () -> Scenes.typed(PAIR, SIXTY).make().execute());
             StringBuilder input = new StringBuilder("pass");
             for (int commands = 1; commands <= 12; commands++) {
                 String executed = input.toString();
-                same(commands, () -> typed(PAIR, executed).make().execute());
+                same(commands, () -> Scenes.typed(PAIR, executed).make().execute());
                 input.append(";pass");
             }
         });
     }
 
-    private void fails(Class<? extends RuntimeException> due, Scene scene, String input) {
-        Scene ready = typed(scene, input);
-        same(input, Check.thrownName(due), () -> ready.make().execute());
-        leaves(ready, LintelBrothers::execute, Facts.INPUT, Facts.INPUT_LENGTH,
+    /** The commands of the scene throw the exception; nothing but the input and a syntax error is different then. */
+    private void fails(Class<? extends RuntimeException> due, Scene scene) {
+        throwing(due, () -> scene.make().execute());
+        leaves(scene, LintelBrothers::execute, Facts.INPUT, Facts.INPUT_LENGTH,
                 due == SYNTAX_ERROR ? Facts.SYNTAX_ERROR : "");
     }
 
@@ -146,9 +138,10 @@ final class CommandChapter extends Chapter {
                         "drop 9;narrow 0 1-0;y"};
                     int[] offsets = {0, 0, 5, 18, 3, 9, 7, 20};
                     for (int at = 0; at < inputs.length; at++) {
-                        fails(SYNTAX_ERROR, PAIR, inputs[at]);
-                        fails(SYNTAX_ERROR, Scenes.FULL, inputs[at]);
-                        Scene executed = typed(PAIR, inputs[at]).then(LintelBrothers::execute);
+                        fails(SYNTAX_ERROR, Scenes.typed(PAIR, inputs[at]));
+                        fails(SYNTAX_ERROR, Scenes.some(inputs[at]));
+                        fails(SYNTAX_ERROR, Scenes.full(inputs[at]));
+                        Scene executed = Scenes.typed(PAIR, inputs[at]).then(LintelBrothers::execute);
                         same(inputs[at], offsets[at], () -> executed.make().syntaxErrorOffset());
                     }
                 });
@@ -159,25 +152,26 @@ final class CommandChapter extends Chapter {
                 "narrow 1 0-41", "0<2+1", "2=0+1", "9#0+1", "0<0+1", "1=1+1", "0#0+1", "0<1+21", "0=1+99", "0#1+21",
                 "0#1+0", "0#1+00", "drop 1", "drop 99", "drop 0;drop 0", "pass;settle;reset;drop 2", "0#1+5;drop 2",
                 "narrow 1 5-6;frame 1 9-8", "door 2-1;narrow 0 0-1"}) {
-                fails(FAILURE, PAIR, input);
+                fails(FAILURE, Scenes.typed(PAIR, input));
             }
-            fails(FAILURE, Scenes.SOME, "drop 1");
-            fails(FAILURE, Scenes.SOME, "drop 3");
-            fails(FAILURE, Scenes.FULL, "drop 12");
-            fails(FAILURE, Scenes.FULL, "frame 6 1-2");
-            fails(FAILURE, Scenes.FULL, "door 0-41");
-            fails(FAILURE, Scenes.FULL, "6<0+1");
-            commandsRejected(0, LintelBrothers.EMPTY, typed(PAIR, "narrow 0 0-4;drop 9"));
+            fails(FAILURE, Scenes.some("drop 1"));
+            fails(FAILURE, Scenes.some("drop 3"));
+            fails(FAILURE, Scenes.full("drop 12"));
+            fails(FAILURE, Scenes.full("frame 6 1-2"));
+            fails(FAILURE, Scenes.full("door 0-41"));
+            fails(FAILURE, Scenes.full("6<0+1"));
+            commandsRejected(0, LintelBrothers.EMPTY, Scenes.typed(PAIR, "narrow 0 0-4;drop 9"));
         });
         holds("Throws `UnsupportedOperationException` if the call is rejected with the reason COMMAND_REJECTED", () -> {
-            commandsRejected(4, LintelBrothers.DOOR_LIMIT, typed(PAIR, "door 0-1;door 0-1;door 0-1;door 0-1;door 0-1"));
-            commandsRejected(0, LintelBrothers.SAME_CONSTRAINT, typed(PAIR, "0<1+3"));
-            commandsRejected(1, LintelBrothers.SAME_CONSTRAINT, typed(PAIR, "0<1+4;0<1+04"));
+            commandsRejected(4, LintelBrothers.DOOR_LIMIT,
+                    Scenes.typed(PAIR, "door 0-1;door 0-1;door 0-1;door 0-1;door 0-1"));
+            commandsRejected(0, LintelBrothers.SAME_CONSTRAINT, Scenes.typed(PAIR, "0<1+3"));
+            commandsRejected(1, LintelBrothers.SAME_CONSTRAINT, Scenes.typed(PAIR, "0<1+4;0<1+04"));
             commandsRejected(9, LintelBrothers.CONSTRAINT_LIMIT,
-                    typed(PAIR, "1#0+1;1#0+2;1#0+3;1#0+4;1#0+5;1#0+6;1#0+7;1#0+8;1#0+9;0#1+1"));
-            commandsRejected(1, LintelBrothers.EMPTY, typed(PAIR, "frame 1 7-9;narrow 1 0-6"));
-            commandsRejected(2, LintelBrothers.CONFLICT, typed(PAIR, "pass;0=1+20;pass"));
-            commandsRejected(1, LintelBrothers.CONFLICT, typed(PAIR, "1<0+1;settle"));
+                    Scenes.typed(PAIR, "1#0+1;1#0+2;1#0+3;1#0+4;1#0+5;1#0+6;1#0+7;1#0+8;1#0+9;0#1+1"));
+            commandsRejected(1, LintelBrothers.EMPTY, Scenes.typed(PAIR, "frame 1 7-9;narrow 1 0-6"));
+            commandsRejected(2, LintelBrothers.CONFLICT, Scenes.typed(PAIR, "pass;0=1+20;pass"));
+            commandsRejected(1, LintelBrothers.CONFLICT, Scenes.typed(PAIR, "1<0+1;settle"));
             commandsRejected(10, LintelBrothers.DOOR_LIMIT, Scenes.FULL);
         });
     }
@@ -214,13 +208,14 @@ final class CommandChapter extends Chapter {
             same(10, () -> Scenes.FULL.make().syntaxErrorOffset());
             for (int length = 0; length <= 59; length++) {
                 String input = SIXTY.substring(0, length) + "!";
-                LintelBrothers x = typed(PAIR, input).then(LintelBrothers::execute).make();
+                LintelBrothers x = Scenes.typed(PAIR, input).then(LintelBrothers::execute).make();
                 same(input, length, x::syntaxErrorOffset);
             }
-            LintelBrothers nearTheEnd = typed(PAIR, SIXTY.substring(0, 58) + "--").then(LintelBrothers::execute).make();
-            same(58, nearTheEnd::syntaxErrorOffset);
-            LintelBrothers atTheEnd = typed(PAIR, "reset;" + SIXTY.substring(0, 54)).then(LintelBrothers::execute).make();
-            same("the length of a full input", 60, atTheEnd::syntaxErrorOffset);
+            Scene nearTheEnd = Scenes.typed(PAIR, SIXTY.substring(0, 58) + "--");
+            same(58, () -> nearTheEnd.then(LintelBrothers::execute).make().syntaxErrorOffset());
+            Scene atTheEnd = Scenes.typed(PAIR, "reset;" + SIXTY.substring(0, 54));
+            same("the length of a full input", 60,
+                    () -> atTheEnd.then(LintelBrothers::execute).make().syntaxErrorOffset());
         });
         holds("Throws `NoSuchElementException` if there was no syntax error", () -> {
             refused(NoSuchElementException.class, Scenes.NOTHING, LintelBrothers::syntaxErrorOffset);

@@ -15,7 +15,8 @@ final class CommandTermChapter extends Chapter {
     @Override
     void tell() {
         holds("The input has one or more commands, with \";\" between two of them.", this::inputs);
-        holds("\"door \" and a number, \"-\" and a number adds a door with a lowest and a greatest height.", this::door);
+        holds("\"door \" and a number, \"-\" and a number adds a door with a lowest and a greatest height.",
+                this::door);
         holds("\"frame \" and a digit, a space, a number, \"-\" and a number changes a frame, and \"narrow \" with the "
                 + "same narrows bounds.", this::frameAndNarrow);
         holds("A digit, a kind, a digit, \"+\" and a number adds a constraint between two doors.", this::constraint);
@@ -23,7 +24,8 @@ final class CommandTermChapter extends Chapter {
         holds("\"pass\", \"settle\" and \"reset\" are commands without numbers.", this::withoutNumbers);
         holds("A number has one or two digits.", this::digits);
         holds("The offset of a syntax error is the index of the first character that cannot follow the characters "
-                + "ahead of it in any input; it is the length of the input if the input ends too early.", this::offsets);
+                + "ahead of it in any input; it is the length of the input if the input ends too early.",
+                this::offsets);
     }
 
     /** The input is executed; what is due is the number of commands and the data after them. */
@@ -122,8 +124,7 @@ final class CommandTermChapter extends Chapter {
     }
 
     private void constraint() {
-        LintelBrothers x = Scenes.FULL.make();
-        Check.answer(x::execute);
+        LintelBrothers x = Scenes.full("").make();
         for (int id = 1; id <= 4; id++) {
             x.removeConstraint(id);
         }
@@ -154,8 +155,7 @@ final class CommandTermChapter extends Chapter {
     private void drop() {
         makes("0-40 in 0-40, 5-35 in 5-35, passes 0, changes 0", 1, "drop 0");
         makes("0-40 in 0-40, 5-35 in 5-35, passes 1, changes 1", 2, "pass;drop 00");
-        LintelBrothers x = Scenes.FULL.make();
-        Check.answer(x::execute);
+        LintelBrothers x = Scenes.full("").make();
         same(1, () -> Scenes.run(x, "drop 10"));
         same("1 2 3 4 6 7 8 9 11", () -> Look.ids(x));
         same(2, () -> Scenes.run(x, "drop 01;drop 9"));

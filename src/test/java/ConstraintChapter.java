@@ -162,7 +162,7 @@ final class ConstraintChapter extends Chapter {
             rejected(LintelBrothers.CONSTRAINT_LIMIT, 1, Scenes.FULL, x -> x.addConstraint('<', 0, 4, 0));
             rejected(LintelBrothers.SAME_CONSTRAINT, 0, Scenes.SOME, x -> x.addConstraint('#', 0, 2, 4));
             rejected(LintelBrothers.SAME_CONSTRAINT, 2, Scenes.SOME, x -> x.addConstraint('=', 2, 1, 5));
-            same(3, () -> Scenes.SOME.make().addConstraint('<', 0, 1, 3));
+            same(3, () -> Scenes.SOME.make().addConstraint('<', 1, 0, 3));
         });
     }
 

@@ -3,13 +3,16 @@ import java.util.Map;
 
 /** All that the calls of an object tell, by name. Each fact has an object of its own, for some are told by changes. */
 final class Facts {
+    static final String DATA = "the data";
+    static final String ANSWERS = "the answers";
+    static final String SNAPSHOT = "the snapshot";
     static final String REJECTION = "the latest rejection";
     static final String CAUSE = "the cause of the latest rejection";
     static final String SYNTAX_ERROR = "the latest syntax error";
     static final String OUTPUT = "the output";
     static final String INPUT_LENGTH = "the length of the input";
     static final String INPUT = "what the input executes";
-    private static final int MORE_THAN_CAN_BE_UNDONE = 9;
+    static final int MORE_THAN_CAN_BE_UNDONE = 9;
     private static final int MORE_THAN_THE_INPUT = 61;
 
     private Facts() {
@@ -17,8 +20,8 @@ final class Facts {
 
     static Map<String, String> of(Scene scene) {
         Map<String, String> facts = new LinkedHashMap<>();
-        facts.put("the data", Look.data(scene.make()));
-        facts.put("the answers", answers(scene.make()));
+        facts.put(DATA, Look.data(scene.make()));
+        facts.put(ANSWERS, answers(scene.make()));
         facts.put(OUTPUT, Look.output(scene.make()));
         facts.put(REJECTION, Look.rejection(scene.make()));
         facts.put(CAUSE, "" + Check.answer(() -> scene.make().causeReason()));
@@ -27,17 +30,23 @@ final class Facts {
         facts.put(INPUT, executed(scene.make()));
         facts.put("the next id", nextId(scene.make()));
         for (int times = 1; times <= MORE_THAN_CAN_BE_UNDONE; times++) {
-            facts.put(times + " times undone", undone(scene.make(), times));
+            facts.put(undoneTimes(times), undone(scene.make(), times));
         }
-        facts.put("the snapshot", restored(scene.make()));
+        facts.put(SNAPSHOT, restored(scene.make()));
         return facts;
+    }
+
+    /** The name of the fact what the data are after so many calls of undo. */
+    static String undoneTimes(int times) {
+        return times + " times undone";
     }
 
     /** What is found out from the data. */
     private static String answers(LintelBrothers x) {
         StringBuilder seen = new StringBuilder();
-        seen.append(x.isSettled()).append(' ').append(Check.answer(x::wouldChange)).append(' ').append(x.isConsistent());
-        seen.append(' ').append(Look.peace(x)).append(' ').append(x.totalWidth()).append(' ').append(x.fixedCount());
+        seen.append(x.isSettled()).append(' ').append(Check.answer(x::wouldChange)).append(' ');
+        seen.append(x.isConsistent()).append(' ').append(Look.peace(x));
+        seen.append(' ').append(x.totalWidth()).append(' ').append(x.fixedCount());
         for (int door = 0; door < x.doorCount(); door++) {
             int at = door;
             seen.append(' ').append(Check.answer(() -> x.lowestHeight(at)));

@@ -136,17 +136,17 @@ final class HistoryChapter extends Chapter {
         });
         holds("Returns the reason, one of the constants.", () -> {
             same(LintelBrothers.DOOR_LIMIT, () -> Scenes.FULL.make().causeReason());
-            Scene limit = Scenes.FULL.then(LintelBrothers::execute).then(x -> Scenes.run(x, "3#0+5"));
+            Scene limit = Scenes.full("3#0+5").then(LintelBrothers::execute);
             same(LintelBrothers.CONSTRAINT_LIMIT, () -> limit.make().causeReason());
-            Scene empty = Scenes.FULL.then(LintelBrothers::execute).then(x -> Scenes.run(x, "narrow 2 0-1"));
+            Scene empty = Scenes.full("narrow 2 0-1").then(LintelBrothers::execute);
             same(LintelBrothers.EMPTY, () -> empty.make().causeReason());
             Scene same = UNREJECTED.then(x -> Scenes.run(x, "0<1+3"));
             same(LintelBrothers.SAME_CONSTRAINT, () -> same.make().causeReason());
             Scene conflict = UNREJECTED.then(x -> Scenes.run(x, "settle"));
             same(LintelBrothers.CONFLICT, () -> conflict.make().causeReason());
         });
-        holds("Throws `NoSuchElementException` if no call was rejected, or the latest rejection has another reason than "
-                + "COMMAND_REJECTED", () -> {
+        holds("Throws `NoSuchElementException` if no call was rejected, or the latest rejection has another reason "
+                + "than COMMAND_REJECTED", () -> {
             refused(NONE, Scenes.NOTHING, LintelBrothers::causeReason);
             refused(NONE, UNREJECTED, LintelBrothers::causeReason);
             refused(NONE, Scenes.SOME, LintelBrothers::causeReason);
@@ -188,10 +188,13 @@ final class HistoryChapter extends Chapter {
                     return y.undo();
                 });
             }
-            Scene executed = Scenes.SOME.then(LintelBrothers::execute);
-            Scene undone = executed.then(y -> Scenes.run(y, "pass;drop 0;door 1-2")).then(LintelBrothers::undo);
-            same("all commands at once", Look.data(executed.make()), () -> Look.data(undone.make()));
+            Scene undone = Scenes.some("pass;drop 0;door 1-2").then(LintelBrothers::execute).then(LintelBrothers::undo);
+            same("all commands at once", Look.data(Scenes.SOME.make()), () -> Look.data(undone.make()));
             same(2, () -> undone.make().undo());
+            Scene passed = UNREJECTED.then(y -> y.setFrame(1, 0, 40)).then(LintelBrothers::pass);
+            same(1, () -> passed.make().changeCount());
+            same("the counts of passes", "5-9 in 5-9, 0-40 in 0-40, 0:0<1+3, passes 0, changes 0",
+                    () -> Look.data(passed.then(LintelBrothers::undo).make()));
         });
         holds("Returns the number of changes that can still be undone.", () -> {
             LintelBrothers x = Scenes.SOME.make();
@@ -253,8 +256,8 @@ final class HistoryChapter extends Chapter {
                     .then(LintelBrothers::restoreSnapshot);
             same(Look.data(Scenes.SOME.then(MANY).make()), () -> Look.data(restored.make()));
             same("the next id", "4", () -> Facts.nextId(restored.make()));
-            leaves(Scenes.SOME, LintelBrothers::saveSnapshot, "the snapshot");
-            leaves(Scenes.FULL, LintelBrothers::saveSnapshot, "the snapshot");
+            leaves(Scenes.SOME, LintelBrothers::saveSnapshot, Facts.SNAPSHOT);
+            leaves(Scenes.FULL, LintelBrothers::saveSnapshot, Facts.SNAPSHOT);
             Scene undone = Scenes.SOME.then(LintelBrothers::undo).then(LintelBrothers::saveSnapshot);
             same("after an undo", Look.data(Scenes.SOME.then(LintelBrothers::undo).make()),
                     () -> Look.data(undone.then(MANY).then(LintelBrothers::restoreSnapshot).make()));
@@ -278,7 +281,8 @@ final class HistoryChapter extends Chapter {
             LintelBrothers x = saved.make();
             for (int id : new int[] {1, 11, 6}) {
                 x.removeConstraint(id);
-                x.setFrame(id % 6, 0, 0);
+                x.setFrame(2, 0, 40);
+                x.pass();
                 x.restoreSnapshot();
                 same("after constraint " + id + " was removed", data, () -> Look.data(x));
             }
@@ -292,9 +296,14 @@ final class HistoryChapter extends Chapter {
             empty.addDoor(1, 2);
             empty.restoreSnapshot();
             same("a snapshot without doors", 0, empty::doorCount);
-            leaves(Scenes.SOME, LintelBrothers::restoreSnapshot, "the data", "the answers", Facts.INPUT,
-                    "1 times undone", "2 times undone", "3 times undone", "4 times undone", "5 times undone", "6 times undone",
-                    "7 times undone", "8 times undone", "9 times undone");
+            String[] different = new String[12];
+            different[0] = Facts.DATA;
+            different[1] = Facts.ANSWERS;
+            different[2] = Facts.INPUT;
+            for (int times = 1; times <= Facts.MORE_THAN_CAN_BE_UNDONE; times++) {
+                different[times + 2] = Facts.undoneTimes(times);
+            }
+            leaves(Scenes.SOME, LintelBrothers::restoreSnapshot, different);
         });
         holds("No change can be undone after the call.", () -> {
             for (Scene scene : new Scene[] {Scenes.SOME, Scenes.FULL}) {

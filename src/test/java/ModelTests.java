@@ -45,6 +45,7 @@ public final class ModelTests {
     }
 
     public static void main(String[] args) {
+        TimeLimit.start();
         for (int run = 0; run < RUNS && wrong < MOST_PRINTED; run++) {
             new ModelTests(run * 7919L + 1).run();
         }
@@ -183,7 +184,8 @@ public final class ModelTests {
 
     private String command() {
         int low = numbers.below(41);
-        String range = low + "-" + (numbers.oneIn(10) ? numbers.below(60) : Math.min(40, low + numbers.below(mostHeights)));
+        int high = numbers.oneIn(10) ? numbers.below(60) : Math.min(40, low + numbers.below(mostHeights));
+        String range = low + "-" + high;
         int door = numbers.below(Math.max(1, model.doorCount()) + (numbers.oneIn(8) ? 1 : 0));
         int other = numbers.below(Math.max(1, model.doorCount()));
         return switch (numbers.below(8)) {

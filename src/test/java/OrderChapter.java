@@ -192,8 +192,8 @@ final class OrderChapter extends Chapter {
     }
 
     private void meanWidth() {
-        holds("Returns the mean width of all doors: the sum of the widths divided by the number of doors, both converted "
-                + "to double.", () -> {
+        holds("Returns the mean width of all doors: the sum of the widths divided by the number of doors, both "
+                + "converted to double.", () -> {
             same(5.0 / 3.0, () -> Scenes.doors(5, 5, 0, 2, 0, 0).meanWidth());
             same(2.5, () -> Scenes.doors(0, 0, 0, 3).meanWidth());
             same(31.0 / 6.0, () -> Scenes.doors(0, 0, 0, 0, 0, 0, 0, 0, 0, 5, 0, 20).meanWidth());
@@ -237,8 +237,8 @@ final class OrderChapter extends Chapter {
 
     /** No run of calls leads to data that are not as they should be, so only the answer true can be seen. */
     private void isConsistent() {
-        holds("Checks the data: for all doors, both ways to find the lowest height agree or both throw an exception, the "
-                + "bounds are within the frame, and the low bound is not greater than the high bound.", () -> {
+        holds("Checks the data: for all doors, both ways to find the lowest height agree or both throw an exception, "
+                + "the bounds are within the frame, and the low bound is not greater than the high bound.", () -> {
             for (int number = 0; number < 400; number++) {
                 LintelBrothers x = new Riddle(number).object();
                 same("riddle " + number, true, x::isConsistent);

@@ -79,7 +79,8 @@ final class OutputChapter extends Chapter {
             x.writeDoor(0);
             same("not of all that was written", 5, () -> x.writeDoor(1));
         });
-        holds("Throws `IndexOutOfBoundsException` if there is no such door", () -> refusesOtherDoors(LintelBrothers::writeDoor));
+        holds("Throws `IndexOutOfBoundsException` if there is no such door",
+                () -> refusesOtherDoors(LintelBrothers::writeDoor));
     }
 
     private void writesConstraint(String due, int id, Scene scene) {
@@ -95,8 +96,8 @@ final class OutputChapter extends Chapter {
     }
 
     private void writeConstraint() {
-        holds("Writes a constraint to the output, in place of the earlier output: its id, \":\", its first door, its kind, "
-                + "its second door, and \"+\" and its gap if this is not 0.", () -> {
+        holds("Writes a constraint to the output, in place of the earlier output: its id, \":\", its first door, "
+                + "its kind, its second door, and \"+\" and its gap if this is not 0.", () -> {
             writesConstraint("0:0#2+4", 0, Scenes.SOME);
             writesConstraint("2:2=1+5", 2, Scenes.SOME);
             writesConstraint("1:0<1+1", 1, Scenes.FULL);

@@ -71,6 +71,7 @@ final class PeaceChapter extends Chapter {
                 same("door " + door, door < 4, ten::hasPeace);
             }
             same(false, () -> Scenes.TORN.make().hasPeace());
+            same("within the bounds", false, () -> THREE.then(y -> y.narrow(0, 0, 7)).make().hasPeace());
             leaves(Scenes.FULL, LintelBrothers::hasPeace);
             leaves(Scenes.TORN, LintelBrothers::hasPeace);
         });
@@ -179,7 +180,8 @@ final class PeaceChapter extends Chapter {
                 same(false, () -> x.arePossible(its, its - 1 < 0 ? 1 : its - 1, 0, 0));
             }
         });
-        holds("- `height`: the height of this door, 0 to 40", () -> heights((x, height) -> x.arePossible(0, height, 1, 20)));
+        holds("- `height`: the height of this door, 0 to 40",
+                () -> heights((x, height) -> x.arePossible(0, height, 1, 20)));
         holds("- `second`: the index of another door, possibly the same", () -> {
             for (int door = 0; door < 6; door++) {
                 int its = door;
@@ -214,16 +216,17 @@ final class PeaceChapter extends Chapter {
     /** Doors 0 and 1 of a riddle, with all heights that can matter; the third door takes each of its heights. */
     private void possibleByTrying(Riddle riddle) {
         LintelBrothers x = riddle.object();
-        for (int first = 0; first < 10; first++) {
-            for (int second = 0; second < 10; second++) {
+        for (int first = 0; first <= Riddle.HEIGHTS; first++) {
+            for (int second = 0; second <= Riddle.HEIGHTS; second++) {
                 boolean isPossible = false;
-                for (int third = 0; third < 9; third++) {
+                for (int third = 0; third < Riddle.HEIGHTS; third++) {
                     isPossible |= riddle.isPeace(new int[] {first, second, third});
                 }
                 int height = first;
                 int otherHeight = second;
-                same(riddle + ", " + first + " and " + second, isPossible, () -> x.arePossible(0, height, 1, otherHeight));
-                same(riddle + ", " + first + " and " + second, isPossible, () -> x.arePossible(1, otherHeight, 0, height));
+                String what = riddle + ", " + first + " and " + second;
+                same(what, isPossible, () -> x.arePossible(0, height, 1, otherHeight));
+                same(what, isPossible, () -> x.arePossible(1, otherHeight, 0, height));
             }
         }
     }

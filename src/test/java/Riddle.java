@@ -2,17 +2,21 @@ import java.util.Arrays;
 
 /** Three doors with few heights and some constraints, made from a number, with the first peace found by trying all. */
 final class Riddle {
+    /** All heights within the bounds are less than this. */
+    static final int HEIGHTS = 10;
+
     private final int[] bounds = new int[6];
     private final int[][] constraints;
-    private int state;
+    private long state;
 
     Riddle(int number) {
-        state = number * 7919 + 1;
+        state = number * 7919L + 1;
+        below(1);
         for (int door = 0; door < 3; door++) {
             bounds[2 * door] = below(5);
-            bounds[2 * door + 1] = bounds[2 * door] + below(5);
+            bounds[2 * door + 1] = bounds[2 * door] + below(6);
         }
-        constraints = new int[2 + below(4)][];
+        constraints = new int[1 + below(4)][];
         for (int at = 0; at < constraints.length; at++) {
             int first = below(3);
             constraints[at] = new int[] {"<=##".charAt(below(4)), first, (first + 1 + below(2)) % 3, 1 + below(4)};
@@ -20,8 +24,8 @@ final class Riddle {
     }
 
     private int below(int bound) {
-        state = state * 1103515245 + 12345;
-        return (state >>> 16) % bound;
+        state = state * 6364136223846793005L + 1442695040888963407L;
+        return (int) ((state >>> 33) % bound);
     }
 
     /** Adds the constraints, but for those that are there. */
@@ -49,8 +53,8 @@ final class Riddle {
 
     /** Returns null if there is none. */
     int[] firstPeace() {
-        for (int number = 0; number < 9 * 9 * 9; number++) {
-            int[] heights = {number / 81, number / 9 % 9, number % 9};
+        for (int number = 0; number < HEIGHTS * HEIGHTS * HEIGHTS; number++) {
+            int[] heights = {number / HEIGHTS / HEIGHTS, number / HEIGHTS % HEIGHTS, number % HEIGHTS};
             if (isPeace(heights)) {
                 return heights;
             }

@@ -29,21 +29,14 @@ final class RuleChapter extends Chapter {
         constants();
     }
 
-    private static Scene typed(Scene scene, String input) {
-        return scene.then(x -> {
-            Check.answer(x::execute);
-            Scenes.type(x, input);
-            return 0;
-        });
-    }
-
     // ---- rejections
 
     private void rejections() {
-        holds("A call is rejected for the first reason that applies, in the order in which its method names them.", () -> {
+        holds("A call is rejected for the first reason that applies, in the order in which its method names "
+                + "them.", () -> {
             rejected(LintelBrothers.CONSTRAINT_LIMIT, 1, Scenes.FULL, x -> x.addConstraint('<', 0, 1, 1));
             rejected(LintelBrothers.CONSTRAINT_LIMIT, 1, Scenes.FULL, x -> x.addConstraint('<', 0, 4, 0));
-            commandsRejected(0, LintelBrothers.CONSTRAINT_LIMIT, typed(Scenes.FULL, "0<1+1"));
+            commandsRejected(0, LintelBrothers.CONSTRAINT_LIMIT, Scenes.full("0<1+1"));
             rejected(LintelBrothers.SAME_CONSTRAINT, 0, QUIET, x -> x.addConstraint('<', 0, 1, 3));
         });
         holds("Every reason is a constant, and has a detail that is described there.", () -> {
@@ -52,8 +45,8 @@ final class RuleChapter extends Chapter {
             rejected(3, 2, Scenes.SOME, x -> x.addConstraint('=', 2, 1, 5));
             rejected(4, 12, Scenes.SOME, x -> x.narrow(0, 1, 2));
             rejected(5, 1, Scenes.TORN, x -> x.pass());
-            commandsRejected(1, 1, typed(Scenes.FULL, "reset;door 0-1"));
-            Scene sixth = typed(Scenes.FULL, "reset;door 0-1").then(LintelBrothers::execute);
+            commandsRejected(1, 1, Scenes.full("reset;door 0-1"));
+            Scene sixth = Scenes.full("reset;door 0-1").then(LintelBrothers::execute);
             same("6 1", () -> Look.rejection(sixth.make()));
         });
         holds("A rejected call changes nothing but the latest rejection.", () -> {
@@ -71,15 +64,15 @@ final class RuleChapter extends Chapter {
             rejected(LintelBrothers.CONFLICT, 12, tornLate, LintelBrothers::settle);
             commandsRejected(10, LintelBrothers.DOOR_LIMIT, Scenes.FULL);
             commandsRejected(4, LintelBrothers.EMPTY,
-                    typed(Scenes.SOME, "frame 0 1-9;drop 0;door 3-4;pass;narrow 3 0-1;drop 9"));
+                    Scenes.some("frame 0 1-9;drop 0;door 3-4;pass;narrow 3 0-1;drop 9"));
         });
     }
 
     // ---- changes
 
     private void changes() {
-        holds("A change is a call of addDoor, setFrame, narrow, reset, addConstraint, removeConstraint, pass, settle or "
-                + "execute that returns a value, also if nothing is different after it.", this::whatIsAChange);
+        holds("A change is a call of addDoor, setFrame, narrow, reset, addConstraint, removeConstraint, pass, settle "
+                + "or execute that returns a value, also if nothing is different after it.", this::whatIsAChange);
         holds("The latest 8 changes can be undone.", this::latestEight);
         holds("Undo and the snapshot cover everything but the input, the output, the latest rejection and the latest "
                 + "syntax error; they also cover the id that is given next.", this::whatIsCovered);
@@ -177,7 +170,7 @@ final class RuleChapter extends Chapter {
                 return x.undo();
             });
         }
-        Scene saved = typed(Scenes.SOME, "").then(LintelBrothers::saveSnapshot);
+        Scene saved = Scenes.some("").then(LintelBrothers::saveSnapshot);
         String data = Look.data(saved.make());
         Scene.Deed many = x -> {
             for (Scene.Deed change : changes) {
@@ -260,8 +253,8 @@ final class RuleChapter extends Chapter {
         refused(NO_ELEMENT, Scenes.TORN, LintelBrothers::peaceSum);
         refused(ArithmeticException.class, Scenes.NOTHING, LintelBrothers::meanWidth);
         refused(ArithmeticException.class, Scenes.NOTHING, LintelBrothers::fixedShare);
-        commandsFail(NO_ARGUMENT, typed(Scenes.SOME, "pass;door 1-2;x"), Facts.SYNTAX_ERROR);
-        commandsFail(NO_STATE, typed(Scenes.SOME, "frame 0 1-2;drop 0;pass;door 1-2;drop 0"), "");
+        commandsFail(NO_ARGUMENT, Scenes.some("pass;door 1-2;x"), Facts.SYNTAX_ERROR);
+        commandsFail(NO_STATE, Scenes.some("frame 0 1-2;drop 0;pass;door 1-2;drop 0"), "");
     }
 
     private void commandsFail(Class<? extends RuntimeException> due, Scene scene, String different) {
@@ -284,12 +277,12 @@ final class RuleChapter extends Chapter {
         refused(NO_INDEX, Scenes.SOME, x -> x.arePossible(0, 41, 3, -1));
         refused(NO_INDEX, Scenes.SOME, x -> x.arePossible(-1, -1, 0, 41));
         refused(NO_ARGUMENT, Scenes.FULL, x -> x.appendInput((char) 127));
-        commandsFail(NO_ARGUMENT, typed(Scenes.SOME, "drop 1;narrow 2 1-2;"), Facts.SYNTAX_ERROR);
-        commandsFail(NO_STATE, typed(Scenes.SOME, "drop 1;narrow 2 1-2"), "");
-        commandsRejected(0, LintelBrothers.EMPTY, typed(Scenes.SOME, "narrow 2 1-2;drop 1"));
-        commandsFail(NO_STATE, typed(Scenes.FULL, "door 2-1"), "");
-        commandsFail(NO_STATE, typed(Scenes.FULL, "0<1+21"), "");
-        commandsFail(NO_STATE, typed(Scenes.SOME, "narrow 2 2-1"), "");
+        commandsFail(NO_ARGUMENT, Scenes.some("drop 1;narrow 2 1-2;"), Facts.SYNTAX_ERROR);
+        commandsFail(NO_STATE, Scenes.some("drop 1;narrow 2 1-2"), "");
+        commandsRejected(0, LintelBrothers.EMPTY, Scenes.some("narrow 2 1-2;drop 1"));
+        commandsFail(NO_STATE, Scenes.full("door 2-1"), "");
+        commandsFail(NO_STATE, Scenes.full("0<1+21"), "");
+        commandsFail(NO_STATE, Scenes.some("narrow 2 2-1"), "");
     }
 
     // ---- further rules
@@ -406,8 +399,8 @@ final class RuleChapter extends Chapter {
             });
             rejected(LintelBrothers.CONSTRAINT_LIMIT, 0, inTheMiddle, x -> x.addConstraint('<', 0, 1, 1));
         });
-        holds("`SAME_CONSTRAINT = 3`: Reason: there is a constraint of the same kind with the same first door, the same "
-                + "second door and the same gap.", this::sameConstraint);
+        holds("`SAME_CONSTRAINT = 3`: Reason: there is a constraint of the same kind with the same first door, the "
+                + "same second door and the same gap.", this::sameConstraint);
         holds("The detail is its id.", () -> {
             Scene nine = Scenes.FULL.then(x -> x.removeConstraint(8));
             rejected(LintelBrothers.SAME_CONSTRAINT, 1, nine, x -> x.addConstraint('<', 0, 1, 1));
@@ -479,26 +472,26 @@ final class RuleChapter extends Chapter {
     private void commandRejected() {
         holds("`COMMAND_REJECTED = 6`: Reason: a command is rejected.", () -> {
             same(6, () -> LintelBrothers.COMMAND_REJECTED);
-            commandsRejected(0, LintelBrothers.EMPTY, typed(Scenes.SOME, "narrow 2 8-9"));
+            commandsRejected(0, LintelBrothers.EMPTY, Scenes.some("narrow 2 8-9"));
         });
         holds("The detail is the number of the command, from 0.", () -> {
             StringBuilder ahead = new StringBuilder();
             for (int number = 0; number < 10; number++) {
-                commandsRejected(number, LintelBrothers.CONFLICT, typed(Scenes.TORN, ahead + "pass"));
+                commandsRejected(number, LintelBrothers.CONFLICT, Scenes.typed(Scenes.TORN, ahead + "pass"));
                 ahead.append("reset;");
             }
             Scene open = () -> Scenes.doors(5, 9, 0, 7);
             commandsRejected(11, LintelBrothers.CONFLICT,
-                    typed(open, "pass;pass;pass;pass;pass;pass;pass;pass;pass;pass;0<1+3;pass"));
+                    Scenes.typed(open, "pass;pass;pass;pass;pass;pass;pass;pass;pass;pass;0<1+3;pass"));
             commandsRejected(10, LintelBrothers.DOOR_LIMIT, Scenes.FULL);
         });
         holds("The reason for which the method of this command rejects it is the cause.", () -> {
-            commandsRejected(1, LintelBrothers.DOOR_LIMIT, typed(Scenes.FULL, "pass;door 1-2"));
-            commandsRejected(0, LintelBrothers.CONSTRAINT_LIMIT, typed(Scenes.FULL, "5#0+1;reset"));
-            commandsRejected(2, LintelBrothers.SAME_CONSTRAINT, typed(Scenes.SOME, "drop 0;0#2+4;0#2+4"));
-            commandsRejected(1, LintelBrothers.EMPTY, typed(Scenes.SOME, "frame 0 1-2;narrow 0 3-4"));
-            commandsRejected(0, LintelBrothers.CONFLICT, typed(Scenes.TORN, "pass"));
-            commandsRejected(2, LintelBrothers.CONFLICT, typed(Scenes.TORN, "reset;reset;settle"));
+            commandsRejected(1, LintelBrothers.DOOR_LIMIT, Scenes.full("pass;door 1-2"));
+            commandsRejected(0, LintelBrothers.CONSTRAINT_LIMIT, Scenes.full("5#0+1;reset"));
+            commandsRejected(2, LintelBrothers.SAME_CONSTRAINT, Scenes.some("drop 0;0#2+4;0#2+4"));
+            commandsRejected(1, LintelBrothers.EMPTY, Scenes.some("frame 0 1-2;narrow 0 3-4"));
+            commandsRejected(0, LintelBrothers.CONFLICT, Scenes.typed(Scenes.TORN, "pass"));
+            commandsRejected(2, LintelBrothers.CONFLICT, Scenes.typed(Scenes.TORN, "reset;reset;settle"));
         });
     }
 }

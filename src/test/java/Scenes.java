@@ -3,9 +3,9 @@ final class Scenes {
     /** A new object. */
     static final Scene NOTHING = LintelBrothers::new;
     /** Three doors, the constraints 0 and 2, three changes to undo, and some of all else that can be told. */
-    static final Scene SOME = Scenes::some;
+    static final Scene SOME = some("pass;re");
     /** Six doors, ten constraints, eight changes to undo, and sixty characters of input. */
-    static final Scene FULL = Scenes::full;
+    static final Scene FULL = full("pass;pass;pass;pass;pass;pass;pass;pass;pass;pass;door 10-40");
     /** Two doors and a constraint that leaves no height to them. */
     static final Scene TORN = Scenes::torn;
 
@@ -46,43 +46,59 @@ final class Scenes {
         return x;
     }
 
-    private static LintelBrothers some() {
-        LintelBrothers x = doors(2, 38, 0, 20, 7, 7);
-        x.addConstraint('#', 0, 2, 4);
-        x.addConstraint('<', 0, 1, 3);
-        x.addConstraint('=', 2, 1, 5);
-        x.removeConstraint(1);
-        x.saveSnapshot();
-        x.restoreSnapshot();
-        x.narrow(0, 5, 30);
-        x.pass();
-        x.narrow(0, 12, 29);
-        Check.answer(() -> x.narrow(2, 8, 9));
-        Check.answer(() -> run(x, "dr"));
-        x.writeDoor(0);
-        type(x, "pass;re");
-        return x;
+    /** SOME with another input. */
+    static Scene some(String input) {
+        return () -> {
+            LintelBrothers x = doors(2, 38, 0, 20, 7, 7);
+            Check.answer(() -> run(x, "dr"));
+            Check.answer(() -> x.narrow(2, 8, 9));
+            x.addConstraint('#', 0, 2, 4);
+            x.addConstraint('<', 1, 0, 3);
+            x.addConstraint('=', 2, 1, 5);
+            x.removeConstraint(1);
+            x.saveSnapshot();
+            x.restoreSnapshot();
+            x.narrow(0, 5, 30);
+            x.pass();
+            x.narrow(0, 12, 29);
+            x.writeDoor(0);
+            type(x, input);
+            return x;
+        };
     }
 
-    private static LintelBrothers full() {
-        LintelBrothers x = doors(0, 40, 1, 39, 2, 38, 3, 37, 4, 36);
-        x.saveSnapshot();
-        x.addDoor(5, 35);
-        String[] constraints = {"0<1+2", "0<1+1", "1<2+1", "2<3+1", "3<4+1", "4<5+2", "4<5+1", "0#5+2", "1#5+2", "0=1+1"};
-        for (String constraint : constraints) {
-            run(x, constraint);
-        }
-        x.removeConstraint(0);
-        x.removeConstraint(5);
-        run(x, "2=3+1");
-        run(x, "0<4+0");
-        x.settle();
-        x.narrow(2, 3, 20);
-        Check.answer(() -> run(x, "settle;pasture"));
-        Check.answer(() -> run(x, "pass;door 1-2"));
-        x.writeConstraint(11);
-        type(x, "pass;pass;pass;pass;pass;pass;pass;pass;pass;pass;door 10-40");
-        return x;
+    /** FULL with another input. */
+    static Scene full(String input) {
+        return () -> {
+            LintelBrothers x = doors(0, 40, 1, 39, 2, 38, 3, 37, 4, 36, 0, 0);
+            Check.answer(() -> run(x, "pass;door 1-2"));
+            Check.answer(() -> run(x, "settle;pasture"));
+            x.undo();
+            x.saveSnapshot();
+            x.addDoor(5, 35);
+            String[] constraints = {"0<1+2", "0<1+1", "1<2+1", "2<3+1", "3<4+1", "4<5+2", "4<5+1", "0#5+2", "1#5+2",
+                "0=1+1"};
+            for (String constraint : constraints) {
+                run(x, constraint);
+            }
+            x.removeConstraint(0);
+            x.removeConstraint(5);
+            run(x, "2=3+1");
+            run(x, "0<4+0");
+            x.settle();
+            x.narrow(2, 3, 20);
+            x.writeConstraint(11);
+            type(x, input);
+            return x;
+        };
+    }
+
+    /** The scene and then the input. */
+    static Scene typed(Scene scene, String input) {
+        return scene.then(x -> {
+            type(x, input);
+            return 0;
+        });
     }
 
     private static LintelBrothers torn() {

@@ -3,6 +3,7 @@ import java.io.IOException;
 /** A test for each sentence of the document, in its order. */
 public final class SentenceTests {
     public static void main(String[] args) throws IOException {
+        TimeLimit.start();
         Sentences sentences = new Sentences();
         new TermChapter(sentences).tell();
         new CommandTermChapter(sentences).tell();

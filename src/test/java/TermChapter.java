@@ -396,7 +396,8 @@ final class TermChapter extends Chapter {
     // ---- peace
 
     private void peace() {
-        holds("A peace is a choice of a height for each door, within its bounds, that satisfies all constraints.", () -> {
+        holds("A peace is a choice of a height for each door, within its bounds, that satisfies all "
+                + "constraints.", () -> {
             for (int number = 0; number < 400; number++) {
                 Riddle riddle = new Riddle(number);
                 LintelBrothers x = riddle.object();
@@ -408,8 +409,8 @@ final class TermChapter extends Chapter {
                 }
             }
         });
-        holds("Of two of them, the one in which the door with the lowest index that has different heights has the lower "
-                + "height comes first.", () -> {
+        holds("Of two of them, the one in which the door with the lowest index that has different heights has the "
+                + "lower height comes first.", () -> {
             for (int number = 0; number < 400; number++) {
                 Riddle riddle = new Riddle(number);
                 int[] first = riddle.firstPeace();
@@ -423,6 +424,12 @@ final class TermChapter extends Chapter {
             same("0 20", () -> Look.peace(apart));
             apart.addConstraint('<', 1, 0, 0);
             same("20 0", () -> Look.peace(apart));
+            LintelBrothers later = Scenes.doors(0, 40, 0, 40, 0, 40);
+            later.addConstraint('#', 2, 1, 20);
+            same("doors of the same height ahead of it", "0 0 20", () -> Look.peace(later));
+            LintelBrothers last = Scenes.doors(0, 40, 0, 40, 0, 40, 0, 40, 0, 40, 0, 40);
+            last.addConstraint('#', 5, 4, 7);
+            same("0 0 0 0 0 7", () -> Look.peace(last));
         });
         holds("Without doors, there is a peace without heights.", () -> {
             LintelBrothers x = new LintelBrothers();
