@@ -126,10 +126,10 @@ final class OutputChapter extends Chapter {
                 constraints("0<1+1;0<1+2;0<1+3;0<1+4;0<2+5")));
         holds("- `id`: the id of a constraint", () -> {
             LintelBrothers x = constraints("0<1+2").make();
-            for (int id = 1; id <= 110; id++) {
+            for (int id = 1; id <= 210; id++) {
                 x.removeConstraint(id - 1);
                 x.addConstraint('#', id % 2, 2, 3);
-                if (id == 9 || id == 10 || id == 99 || id == 100) {
+                if (id == 9 || id == 10 || id == 99 || id == 100 || id == 210) {
                     String due = id + ":" + id % 2 + "#2+3";
                     int its = id;
                     same(due.length(), () -> x.writeConstraint(its));

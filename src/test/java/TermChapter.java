@@ -198,12 +198,12 @@ final class TermChapter extends Chapter {
         throwing(UnsupportedOperationException.class, () -> x.addConstraint('#', 0, 1, 4));
         throwing(IllegalArgumentException.class, () -> x.addConstraint('#', 0, 1, 0));
         same(5, () -> x.addConstraint('#', 1, 0, 4));
-        for (int id = 6; id <= 120; id++) {
+        for (int id = 6; id <= 240; id++) {
             int next = id;
             x.removeConstraint(id - 1);
             same(next, () -> x.addConstraint('<', 1, 0, 4));
         }
-        same("4 120", () -> Look.ids(x));
+        same("4 240", () -> Look.ids(x));
     }
 
     /** Doors of one height each, at the ends of what a gap allows and all around them. */
