@@ -132,6 +132,8 @@ final class RuleChapter extends Chapter {
         for (int low = 1; low <= 30; low++) {
             x.narrow(0, low, 40);
         }
+        throwing(UnsupportedOperationException.class, () -> x.narrow(0, 0, 1));
+        throwing(NO_ARGUMENT, () -> x.setFrame(0, 1, 0));
         for (int left = 7; left >= 0; left--) {
             int due = left;
             same(due, x::undo);
