@@ -10,6 +10,8 @@ import java.util.Arrays;
 import java.util.List;
 import java.util.Set;
 import java.util.TreeSet;
+import java.util.regex.Matcher;
+import java.util.regex.Pattern;
 
 /** The face of the class, as the document and the rules of LANGUAGE.md want it. */
 public final class FaceTests {
@@ -21,6 +23,7 @@ public final class FaceTests {
         constants();
         members();
         methods();
+        headings();
         nestedClasses();
         source();
         CHECK.end();
@@ -93,6 +96,29 @@ public final class FaceTests {
         }
         privateNames.retainAll(names);
         CHECK.same("no private method has a public one's name", "[]", privateNames::toString);
+    }
+
+    /** The headings that the interface has ahead of its calls, and the calls below them. */
+    private static void headings() throws IOException {
+        List<String> due = new ArrayList<>();
+        for (String line : Files.readAllLines(DOCUMENT)) {
+            Matcher heading = Pattern.compile("Ahead of the calls (.+) the interface says: (---- .+)\\.").matcher(line);
+            if (heading.matches()) {
+                due.add(heading.group(2));
+                due.addAll(Arrays.asList(heading.group(1).replace("`", "").split(", ")));
+            }
+        }
+        List<String> got = new ArrayList<>();
+        for (String line : Files.readAllLines(SOURCE)) {
+            Matcher call = Pattern.compile("    public \\w+ (\\w+)\\(.*").matcher(line);
+            if (call.matches()) {
+                got.add(call.group(1));
+            } else if (line.startsWith("    // ---- ")) {
+                got.add(line.strip().substring("// ".length()));
+            }
+        }
+        CHECK.same("headings and calls of the document", 8 + 54, due::size);
+        CHECK.same("headings ahead of the calls", due, () -> got.subList(0, Math.min(due.size(), got.size())));
     }
 
     private static void nestedClasses() {

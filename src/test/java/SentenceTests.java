@@ -5,6 +5,7 @@ public final class SentenceTests {
     public static void main(String[] args) throws IOException {
         TimeLimit.start();
         Sentences sentences = new Sentences();
+        new BeginningChapter(sentences).tell();
         new TermChapter(sentences).tell();
         new CommandTermChapter(sentences).tell();
         new RuleChapter(sentences).tell();

@@ -74,7 +74,7 @@ final class Sentences {
         Set<String> sentences = new LinkedHashSet<>();
         for (String section : text.split("\n## ")) {
             String title = section.substring(0, section.indexOf('\n'));
-            if (title.equals("Terms") || title.startsWith("Promise ")) {
+            if (title.equals("What it is") || title.equals("Terms") || title.startsWith("Promise ")) {
                 for (String paragraph : section.substring(title.length()).split("\n\n|\n(?=- )")) {
                     addSentences(sentences, title, paragraph.replaceAll("\\s+", " ").strip());
                 }
