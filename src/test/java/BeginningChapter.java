@@ -108,7 +108,7 @@ final class BeginningChapter extends Chapter {
                 x.addConstraint('#', other, door, 10);
             }
         }
-        for (int call = 15; call < CALLS; call += 3) {
+        for (int call = 15; call + 3 <= CALLS; call += 3) {
             same(40, () -> x.peaceHeight(4));
             same(true, () -> x.arePossible(4, 0, 0, 40));
             same(false, () -> x.arePossible(4, 0, 0, 39));
